@@ -28,6 +28,19 @@ final class Check {
         tell(promise, call + " changes nothing", Long.toString(before), Long.toString(desk.digest()));
     }
 
+    /** An undoable call: it saves one state, and undo brings back all that the digest tells. */
+    static void dueUndoable(int promise, String call, long want, BladeDesk desk, LongSupplier got) {
+        long before = desk.digest();
+        int saved = desk.count(2);
+        due(promise, call, want, got);
+        due(promise, call + " saves a state", saved + 1, () -> desk.count(2));
+        long after = desk.digest();
+        due(20, "undo() after " + call, saved, desk::undo);
+        tell(20, "undo() of " + call + " brings all back", Long.toString(before), Long.toString(desk.digest()));
+        due(promise, call + " again", want, got);
+        tell(promise, call + " does the same again", Long.toString(after), Long.toString(desk.digest()));
+    }
+
     static void tell(int promise, String call, String want, String got) {
         done++;
         if (!want.equals(got)) {

@@ -1,0 +1,142 @@
+import java.util.function.LongSupplier;
+
+/** Promise 34: the digest, made once more of what the other looks answer. */
+final class DigestTest {
+    private final BladeDesk desk;
+    private final String buffer;
+    private long hash = 2423;
+
+    private DigestTest(BladeDesk desk, String buffer) {
+        this.desk = desk;
+        this.buffer = buffer;
+        Check.type(desk, buffer);
+    }
+
+    public static void main(String[] args) {
+        digest("a new desk", new BladeDesk(), "");
+        digest("a buffer", new BladeDesk(), "e0!~1+");
+        digest("a full buffer", new BladeDesk(), "-".repeat(60));
+        for (int n = 2; n <= 5; n++) {
+            digest("a filled desk with n = " + n, filled(n), "12e0");
+        }
+        digest("large coefficients", large(), "");
+        eachPartMatters();
+        Check.end("DigestTest");
+    }
+
+    private static BladeDesk filled(int n) {
+        BladeDesk desk = new BladeDesk();
+        desk.begin(n);
+        desk.sign(n - 1, -1);
+        desk.matrix(0, 1, 3);
+        desk.matrix(1, 0, -4);
+        String[] forms = {"1+2e0-3e1", "e0+e1", "5e01", "60e0", "61e0", "-7", "e01-e1"};
+        for (int slot = 0; slot < forms.length; slot++) {
+            Check.put(desk, slot, forms[slot]);
+        }
+        if (n > 3) {
+            Check.put(desk, 5, "10e01+14e02-15e12");
+            Check.put(desk, 6, "e01+e23");
+            Check.put(desk, 7, "e012-2e013");
+        }
+        desk.star(0, 3);
+        desk.scale(4, 0, 4);
+        desk.take(1);
+        return desk;
+    }
+
+    private static BladeDesk large() {
+        BladeDesk desk = new BladeDesk();
+        for (int blade = 0; blade < 16; blade++) {
+            desk.set(0, blade, blade % 3 == 0 ? -100000000 : 100000000);
+            desk.set(1, blade, 100000000 - blade);
+        }
+        return desk;
+    }
+
+    private static void digest(String what, BladeDesk desk, String buffer) {
+        long want = new DigestTest(desk, buffer).compute();
+        Check.due(34, "digest() of " + what, want, desk::digest);
+        Check.due(34, "digest() of " + what + " again", want, desk::digest);
+    }
+
+    private void add(long value) {
+        hash = 31 * hash + value;
+    }
+
+    private long compute() {
+        int n = desk.count(0);
+        for (int what = 0; what <= 24; what++) {
+            if (what < 15 || what > 19) {
+                add(desk.count(what));
+            }
+        }
+        for (int place = 0; place < n * n; place++) {
+            add(desk.matrixAt(place / n, place % n));
+        }
+        for (int slot = 0; slot < 8; slot++) {
+            addSlot(n, slot);
+        }
+        for (int what = 1; what <= 3; what++) {
+            add(desk.refused(what, 0, 1));
+        }
+        add(buffer.length());
+        for (char code : buffer.toCharArray()) {
+            add(code);
+        }
+        return hash;
+    }
+
+    private void addSlot(int n, int slot) {
+        for (int blade = 0; blade < 1 << n; blade++) {
+            add(desk.coefficient(slot, blade));
+        }
+        for (int what = 0; what <= 7; what++) {
+            add(desk.form(slot, what));
+        }
+        add(desk.decomposable(slot, 0));
+        add(desk.decomposable(slot, 1));
+        add(desk.annihilator(slot));
+        for (int place = 0; place < desk.annihilator(slot); place++) {
+            for (int k = 0; k < n; k++) {
+                add(desk.basis(slot, place, k));
+            }
+        }
+        for (int place = 0; place < 5 && desk.factor(slot, place, 0) != BladeDesk.NONE; place++) {
+            for (int k = 0; k < n; k++) {
+                add(desk.factor(slot, place, k));
+            }
+        }
+        add(desk.inner(slot, 0));
+        add(desk.compare(slot, 1));
+        add(Float.floatToIntBits(desk.density(slot)));
+        add(Double.doubleToLongBits(desk.share(slot, 2)));
+    }
+
+    private static void differs(String what, BladeDesk one, BladeDesk other) {
+        Check.due(34, "digest() tells " + what, 1, () -> one.digest() != other.digest() ? 1 : 0);
+    }
+
+    private static void eachPartMatters() {
+        BladeDesk sign = filled(4);
+        sign.sign(0, -1);
+        differs("a sign", filled(4), sign);
+        BladeDesk matrix = filled(4);
+        matrix.matrix(3, 3, 2);
+        differs("a number of the matrix", filled(4), matrix);
+        BladeDesk slot = filled(4);
+        slot.set(7, 15, 1);
+        differs("a coefficient", filled(4), slot);
+        BladeDesk buffer = filled(4);
+        buffer.append(33);
+        differs("the buffer", filled(4), buffer);
+        BladeDesk taken = filled(4);
+        taken.take(0);
+        differs("a snapshot", filled(4), taken);
+        BladeDesk undone = filled(4);
+        undone.undo();
+        differs("a saved state", filled(4), undone);
+        LongSupplier same = filled(4)::digest;
+        Check.due(34, "digest() of the same desk", filled(4).digest(), same);
+    }
+}
