@@ -20,6 +20,9 @@ final class DigestTest {
             digest("a filled desk with n = " + n, filled(n), "12e0");
         }
         digest("large coefficients", large(), "");
+        digest("refused products", refused(), "");
+        digest("a refused push", refusedPush(), "");
+        bits();
         eachPartMatters();
         Check.end("DigestTest");
     }
@@ -52,6 +55,39 @@ final class DigestTest {
             desk.set(1, blade, 100000000 - blade);
         }
         return desk;
+    }
+
+    /** Refused are the wedge and the contraction of the slots 0 and 1, but of no slot with itself. */
+    private static BladeDesk refused() {
+        BladeDesk desk = new BladeDesk();
+        desk.set(0, 1, 100000);
+        desk.set(0, 2, 100000);
+        desk.sign(1, -1);
+        desk.set(1, 4, 1001);
+        desk.set(1, 9, 1001);
+        desk.set(1, 10, -1001);
+        return desk;
+    }
+
+    private static BladeDesk refusedPush() {
+        BladeDesk desk = new BladeDesk();
+        desk.set(0, 9, 100000000);
+        desk.matrix(3, 3, -2);
+        return desk;
+    }
+
+    /** Shares and densities of many kinds: with few and with many bits, and near 1 and 0. */
+    private static void bits() {
+        String[] forms = {"99999+e01", "19+21e01", "1-99999e01", "1+2e01", "7+6e01-4e23+3e012", "e01", "1+e01+e0123",
+            "99999+99999e0+99999e1+99999e2+99999e012+e23", "3e0+e01-e02", "15+16e01", "1023-e01"};
+        for (int n = 4; n <= 5; n++) {
+            for (String form : forms) {
+                BladeDesk desk = new BladeDesk();
+                desk.begin(n);
+                Check.put(desk, 0, form);
+                digest("a desk with " + form, desk, "");
+            }
+        }
     }
 
     private static void digest(String what, BladeDesk desk, String buffer) {

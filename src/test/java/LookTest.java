@@ -290,6 +290,8 @@ final class LookTest {
         compare("e0", "0", 2);
         compare("e0", "e0+e1", 3);
         compare("e0+e1", "e0", 3);
+        compare("e0", "1+e0", 3);
+        compare("1+e0", "1-e0", 3);
         compare("e0", "e01", 2);
         compare("e01", "e0", 2);
         compare("e01", "e12", 2);
