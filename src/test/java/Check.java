@@ -9,6 +9,7 @@ final class Check {
 
     private static int wrong = 0;
     private static int done = 0;
+    private static String sentence = "";
 
     private Check() {
     }
@@ -45,7 +46,8 @@ final class Check {
         done++;
         if (!want.equals(got)) {
             wrong++;
-            System.out.println("promise " + promise + ": " + call + " answered " + got + ", due is " + want);
+            System.out.println("promise " + promise + ": " + call + " answered " + got + ", due is " + want
+                + (sentence.isEmpty() ? "" : " (" + sentence + ")"));
         }
     }
 
@@ -55,6 +57,15 @@ final class Check {
         } catch (RuntimeException e) {
             return e.getClass().getName();
         }
+    }
+
+    /** The sentence of the document that the answers to come are of; nothing if of none. */
+    static void about(String words) {
+        sentence = words;
+    }
+
+    static int done() {
+        return done;
     }
 
     static int wrong() {

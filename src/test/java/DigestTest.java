@@ -1,27 +1,39 @@
 import java.util.function.LongSupplier;
+import java.util.function.Supplier;
 
-/** Promise 34: the digest, made once more of what the other looks answer. */
+/**
+ * Promise 34: the digest, made once more of what the other looks answer. These are more than the 512
+ * calls that a desk is promised, so each slot is looked at on a desk of its own.
+ */
 final class DigestTest {
-    private final BladeDesk desk;
+    private final Supplier<BladeDesk> desks;
     private final String buffer;
+    private BladeDesk desk;
     private long hash = 2423;
 
-    private DigestTest(BladeDesk desk, String buffer) {
-        this.desk = desk;
+    private DigestTest(Supplier<BladeDesk> desks, String buffer) {
+        this.desks = desks;
         this.buffer = buffer;
-        Check.type(desk, buffer);
+        this.desk = newDesk();
+    }
+
+    private BladeDesk newDesk() {
+        BladeDesk next = desks.get();
+        Check.type(next, buffer);
+        return next;
     }
 
     public static void main(String[] args) {
-        digest("a new desk", new BladeDesk(), "");
-        digest("a buffer", new BladeDesk(), "e0!~1+");
-        digest("a full buffer", new BladeDesk(), "-".repeat(60));
+        digest("a new desk", BladeDesk::new, "");
+        digest("a buffer", BladeDesk::new, "e0!~1+");
+        digest("a full buffer", BladeDesk::new, "-".repeat(60));
         for (int n = 2; n <= 5; n++) {
-            digest("a filled desk with n = " + n, filled(n), "12e0");
+            int dimension = n;
+            digest("a filled desk with n = " + n, () -> filled(dimension), "12e0");
         }
-        digest("large coefficients", large(), "");
-        digest("refused products", refused(), "");
-        digest("a refused push", refusedPush(), "");
+        digest("large coefficients", DigestTest::large, "");
+        digest("refused products", DigestTest::refused, "");
+        digest("a refused push", DigestTest::refusedPush, "");
         bits();
         eachPartMatters();
         Check.end("DigestTest");
@@ -81,17 +93,17 @@ final class DigestTest {
         String[] forms = {"99999+e01", "19+21e01", "1-99999e01", "1+2e01", "7+6e01-4e23+3e012", "e01", "1+e01+e0123",
             "99999+99999e0+99999e1+99999e2+99999e012+e23", "3e0+e01-e02", "15+16e01", "1023-e01"};
         for (int n = 4; n <= 5; n++) {
+            int dimension = n;
             for (String form : forms) {
-                BladeDesk desk = new BladeDesk();
-                desk.begin(n);
-                Check.put(desk, 0, form);
-                digest("a desk with " + form, desk, "");
+                digest("a desk with " + form, () -> Edge.desk(dimension, form), "");
             }
         }
     }
 
-    private static void digest(String what, BladeDesk desk, String buffer) {
-        long want = new DigestTest(desk, buffer).compute();
+    private static void digest(String what, Supplier<BladeDesk> desks, String buffer) {
+        DigestTest test = new DigestTest(desks, buffer);
+        long want = test.compute();
+        BladeDesk desk = test.newDesk();
         Check.due(34, "digest() of " + what, want, desk::digest);
         Check.due(34, "digest() of " + what + " again", want, desk::digest);
     }
@@ -111,6 +123,7 @@ final class DigestTest {
             add(desk.matrixAt(place / n, place % n));
         }
         for (int slot = 0; slot < 8; slot++) {
+            desk = newDesk();
             addSlot(n, slot);
         }
         for (int what = 1; what <= 3; what++) {

@@ -1,17 +1,20 @@
 import java.util.function.ToLongFunction;
 
 /**
- * Long runs of calls on a desk and on the reference, which must answer alike. The numbers come from
+ * Long runs of calls on desks and on the reference, which must answer alike. The numbers come from
  * a fixed rule, so that each run is the same. Which calls come, and with what, leans to what is rare:
- * bounds, decomposable forms, texts with faults late in them.
+ * bounds, decomposable forms, texts with faults late in them. A desk is used for the 512 calls that
+ * are promised; then the run goes on with a new one.
  */
 final class ReferenceTest {
     private static final int RUNS = 300;
-    private static final int CALLS = 500;
+    private static final int STEPS = 500;
+    private static final int PROMISED_CALLS = 512;
 
-    private final BladeDesk desk = new BladeDesk();
-    private final ReferenceDesk reference = new ReferenceDesk();
-    private final StringBuilder calls = new StringBuilder();
+    private BladeDesk desk = new BladeDesk();
+    private ReferenceDesk reference = new ReferenceDesk();
+    private StringBuilder calls = new StringBuilder();
+    private int used = 0;
     private long seed;
 
     private ReferenceTest(long seed) {
@@ -27,7 +30,7 @@ final class ReferenceTest {
 
     private void run(int run) {
         int size = run % 5;
-        for (int i = 0; i < CALLS && Check.wrong() == 0; i++) {
+        for (int i = 0; i < STEPS && Check.wrong() == 0; i++) {
             step(size);
             if (i % 16 == 0) {
                 both(34, "digest()", BladeDesk::digest, ReferenceDesk::digest);
@@ -43,7 +46,21 @@ final class ReferenceTest {
         Check.tell(promise, call, Long.toString(want), Long.toString(got));
     }
 
+    /** Most new desks get another dimension at once, as the calls of a run seldom change it. */
+    private void renew() {
+        desk = new BladeDesk();
+        reference = new ReferenceDesk();
+        calls = new StringBuilder();
+        used = 0;
+        int n = 2 + below(5);
+        both(2, "begin(" + n + ")", d -> d.begin(n), d -> d.begin(n));
+    }
+
     private void both(int promise, String call, ToLongFunction<BladeDesk> one, ToLongFunction<ReferenceDesk> other) {
+        if (used == PROMISED_CALLS) {
+            renew();
+        }
+        used++;
         calls.append(call).append("; ");
         Check.tell(promise, call,
             Check.answerOf(() -> Long.toString(other.applyAsLong(reference))),

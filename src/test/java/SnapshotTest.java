@@ -92,7 +92,8 @@ final class SnapshotTest {
         Check.due(19, "matrixAt(1, 1)", 8, () -> desk.matrixAt(1, 1));
         Check.due(19, "begin(5) after it", 2, () -> desk.begin(5));
         for (int slot = 0; slot < 8; slot++) {
-            Check.dueForm(19, "slot " + slot + " after begin(5)", "0", desk, slot);
+            int s = slot;
+            Check.due(19, "form(" + s + ", 0) after begin(5)", 0, () -> desk.form(s, 0));
         }
         BladeDesk fresh = new BladeDesk();
         fresh.take(0);

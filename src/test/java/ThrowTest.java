@@ -2,15 +2,18 @@ import java.util.function.LongSupplier;
 
 /**
  * Wrong inputs of all calls: which exception is thrown, also where several apply, and that nothing is
- * changed by it. The last is looked at twice: by the digest after each call, and at the end by what
- * undo and restore bring back on a twin that got none of these calls.
+ * changed by it. The last is looked at twice: by the digest after each call, and when a desk has been
+ * used long enough, by what undo and restore bring back on a twin that got none of these calls.
  */
 final class ThrowTest {
     private static final int LARGEST = 100000000;
+    /** A desk is promised 512 calls: some 100 to fill it and to unwind it, and three for each look. */
+    private static final int LOOKS = 130;
     private static final int[] NO_SLOTS = {-1, 8, 9, Integer.MIN_VALUE, Integer.MAX_VALUE};
 
     private final int n;
-    private final BladeDesk desk;
+    private BladeDesk desk;
+    private int looks = 0;
 
     private ThrowTest(int n) {
         this.n = n;
@@ -49,15 +52,27 @@ final class ThrowTest {
         return desk;
     }
 
+    private void renew() {
+        looks++;
+        if (looks > LOOKS) {
+            unwind();
+            desk = filled(n);
+            looks = 0;
+        }
+    }
+
     private void index(int promise, String call, LongSupplier got) {
+        renew();
         Check.dueThrow(promise, call + " with n = " + n, Check.INDEX, desk, got);
     }
 
     private void argument(int promise, String call, LongSupplier got) {
+        renew();
         Check.dueThrow(promise, call + " with n = " + n, Check.ARGUMENT, desk, got);
     }
 
     private void state(int promise, String call, LongSupplier got) {
+        renew();
         Check.dueThrow(promise, call + " with n = " + n, Check.STATE, desk, got);
     }
 
