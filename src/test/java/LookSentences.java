@@ -61,7 +61,10 @@ final class LookSentences {
             .holds("Computes a hash of the whole state.", LookSentences::wholeState)
             .holds("The hash starts at 2423.", LookSentences::digestOfNewDesk)
             .holds("For each value v of the following list, in order, the hash becomes", LookSentences::overflow)
-            .holds("The values are: count(0) to count(14)", LookSentences::valuesOfDigest)
+            .holds("The values are: count(0) to count(14)", () -> {
+                valuesOfDigest();
+                refusedInDigest();
+            })
             .holds("Returns the hash.", LookSentences::sameHash);
     }
 
@@ -392,6 +395,7 @@ final class LookSentences {
         }
         compare(4, "e0+e23", "e01-e123", 2);
         compare(4, "e01-e123", "e0+e23", 3);
+        compare(4, "1+e0", "1-e0", 3);
         BladeDesk desk = Edge.desk(2);
         int[] one = {LARGEST, LARGEST - 1};
         int[] other = {LARGEST - 1, LARGEST - 2};
@@ -400,6 +404,13 @@ final class LookSentences {
             desk.set(1, i + 1, other[i]);
         }
         Check.due(29, "compare() of forms that are multiples but for one part in 10^16", 3, () -> desk.compare(0, 1));
+        int[] half = {LARGEST / 2, LARGEST / 2 - 1, LARGEST, LARGEST - 2};
+        for (int i = 0; i < 2; i++) {
+            desk.set(0, i + 1, half[i]);
+            desk.set(1, i + 1, -half[i + 2]);
+        }
+        Check.due(29, "compare() of a large form and a multiple of it", 1, () -> desk.compare(0, 1));
+        Check.due(29, "compare() of them the other way round", 1, () -> desk.compare(1, 0));
         // The products that are compared differ by 2^32, and so do those of the wedge.
         int[] wrapping = {65536, 0, 65536, 65536};
         for (int i = 0; i < 2; i++) {
@@ -764,6 +775,34 @@ final class LookSentences {
         }
         add(values, NONE, NONE, NONE, 3, 'e', '0', '~');
         Check.due(34, "digest() of a desk worked out by hand", hash(values), desk::digest);
+    }
+
+    /** Only the slots 0 and 1 together are refused, and a form without factors has none in the list. */
+    private static void refusedInDigest() {
+        List<Long> values = new ArrayList<>();
+        BladeDesk desk = new BladeDesk();
+        desk.set(0, 5, LARGEST);
+        desk.set(0, 10, LARGEST);
+        desk.set(1, 0, 2);
+        desk.matrix(3, 3, 2);
+        long bitsOfThird = bits(2.0f / 6.0f);
+        add(values, 4, 2, 4, 2, 1, 0, 0, 0, 0, 0, 0, 0, 0, 0, 0);
+        add(values, 1, 1, 1, 1, 0);
+        add(values, 1, 0, 0, 0, 0, 1, 0, 0, 0, 0, 1, 0, 0, 0, 0, 2);
+        add(values, 0, 0, 0, 0, 0, LARGEST, 0, 0, 0, 0, LARGEST, 0, 0, 0, 0, 0);
+        add(values, 2, 2, 2, 2, LARGEST, 5, LARGEST, 15, 0, NONE, NONE, 20000000000000000L, 3, bitsOfThird, bits(1.0));
+        add(values, 2, 0, 0, 0, 0, 0, 0, 0, 0, 0, 0, 0, 0, 0, 0, 0);
+        add(values, 1, 0, 0, 0, 2, 0, 2, 0, 1, 1, 0, 0, 0, bits(1.0f), bits(0.0));
+        for (int slot = 2; slot < 8; slot++) {
+            add(values, new long[16]);
+            add(values, 0, NONE, NONE, NONE, 0, NONE, NONE, 0, NONE, NONE);
+            add(values, 4, 1, 0, 0, 0, 0, 1, 0, 0, 0, 0, 1, 0, 0, 0, 0, 1);
+            add(values, 0, 2, 0, 0);
+        }
+        add(values, 5, NONE, 10, 0);
+        Check.due(34, "digest() with refused results", hash(values), desk::digest);
+        // The contraction of the slot 0 into the slot 1 has no part that is not 0; the other way it is refused.
+        Check.due(28, "refused(2, 1, 0)", 5, () -> desk.refused(2, 1, 0));
     }
 
     private static long bits(float value) {
