@@ -275,6 +275,7 @@ final class ResultSentences {
     private static void wedges() {
         makes(WEDGE, 2, "e0", "e1", "e01");
         makes(WEDGE, 2, "e1", "e0", "-e01");
+        makes(WEDGE, 2, "-1-e1", "-1-e0", "1+e0+e1-e01");
         makes(WEDGE, 2, "e0", "e0", "0");
         makes(WEDGE, 5, "e01234", "e0", "0");
         makes(WEDGE, 5, "e01234", "-3", "-3e01234");
@@ -334,6 +335,7 @@ final class ResultSentences {
     private static void contractions() {
         makes(CONTRACT, 2, "e0", "e01", "e1");
         makes(CONTRACT, 2, "e1", "e01", "-e0");
+        makes(CONTRACT, 2, "-1-e1", "e01", "e0-e01");
         makes(CONTRACT, 2, "e01", "e01", "1");
         makes(CONTRACT, 2, "e01", "e0", "0");
         makes(CONTRACT, 5, "1", "e01234-e4", "-e4+e01234");
